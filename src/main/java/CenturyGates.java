@@ -143,6 +143,8 @@ public final class CenturyGates {
     private static final int DO_CLOSED = -13;
     private static final int DO_DRIVE = -14;
     private static final int STACK_MOST = 64;
+    /** Few programs are long: room for the others is made when one is. */
+    private static final int PROGRAM_FIRST = 64;
 
     private static final int TOKEN_END = 0;
     private static final int TOKEN_WORD = 1;
@@ -166,6 +168,7 @@ public final class CenturyGates {
     private final int[] seen;
     private int seenCount;
     private final int[] lates;
+    private final int[] shutCounts;
     private final int[] image;
     private int imageSize;
     private final int[] refused;
@@ -179,14 +182,12 @@ public final class CenturyGates {
         state = new State();
         ahead = new State();
         past = new State[UNDO_MOST];
-        for (int k = 0; k < past.length; k++) {
-            past[k] = new State();
-        }
         days = new Days(district);
         keepers = new Keepers();
         closed = new long[ROW];
         seen = new int[SEEN_MOST * SEEN_PARTS];
         lates = new int[LATES];
+        shutCounts = new int[GATES_MOST * MINUTES];
         image = new int[IMAGE_MOST];
         refused = new int[REFUSED_KINDS];
         seed = 1;
@@ -318,7 +319,7 @@ public final class CenturyGates {
             return NONE;
         }
         closeNow();
-        return isMarked(closed, 0, gate, minute) ? 1 : 0;
+        return isMarked(closed, gate, minute) ? 1 : 0;
     }
 
     public int opens(int gate, int minute) {
@@ -460,11 +461,12 @@ public final class CenturyGates {
             return NONE;
         }
         int all = findLates(era);
+        countShut(era, all);
         int best = NONE;
         int fewest = all;
         for (int minute = 0; all > 0 && minute < MINUTES; minute++) {
             for (int gate = 0; gate < district.gates.count; gate++) {
-                int shut = countShut(era, all, gate, minute);
+                int shut = shutCounts[gate * MINUTES + minute];
                 int left = Math.max(shut, all - shut);
                 if (best == NONE || left < fewest) {
                     fewest = left;
@@ -540,13 +542,14 @@ public final class CenturyGates {
     }
 
     public boolean undo() {
-        if (pastCount == 0) {
+        int latest = (pastNext + UNDO_MOST - 1) % UNDO_MOST;
+        if (pastCount == 0 || past[latest] == null) {
             refuse(REFUSED_UNDO);
             return false;
         }
         pastCount--;
-        pastNext = (pastNext + UNDO_MOST - 1) % UNDO_MOST;
-        state.copy(past[pastNext]);
+        pastNext = latest;
+        state.copy(past[latest]);
         return true;
     }
 
@@ -654,7 +657,11 @@ public final class CenturyGates {
         return isTold() && n >= 1 && n <= DAYS_MOST && state.day + n <= DAY_MOST;
     }
 
+    /** Made when first needed and used again: most objects are asked far more often than changed. */
     private void remember() {
+        if (past[pastNext] == null) {
+            past[pastNext] = new State();
+        }
         past[pastNext].copy(state);
         pastNext = (pastNext + 1) % UNDO_MOST;
         pastCount = Math.min(UNDO_MOST, pastCount + 1);
@@ -725,7 +732,7 @@ public final class CenturyGates {
         days.line.close(state, state.up, era, closed);
         int count = 0;
         for (int late = 0; late < LATES; late++) {
-            if (isLate(era, late)) {
+            if (isAsSeen(days.line.row(era, late))) {
                 lates[count] = late;
                 count++;
             }
@@ -733,29 +740,42 @@ public final class CenturyGates {
         return count;
     }
 
-    private boolean isLate(int era, int late) {
-        for (int row = 0; row < seenCount; row++) {
-            int k = row * SEEN_PARTS;
-            boolean shut = isShutBy(era, late, seen[k + 1], seen[k]);
-            if (shut != (seen[k + 2] == 1)) {
+    /** Whether all that is SEEN is so, when an ERA shuts GATES by this row. */
+    private boolean isAsSeen(long[] row) {
+        for (int n = 0; n < seenCount; n++) {
+            int minute = seen[n * SEEN_PARTS];
+            int gate = seen[n * SEEN_PARTS + 1];
+            boolean shut = !state.isUp(gate) && (isMarked(closed, gate, minute) || isMarked(row, gate, minute));
+            if (shut != (seen[n * SEEN_PARTS + 2] == 1)) {
                 return false;
             }
         }
         return true;
     }
 
-    private boolean isShutBy(int era, int late, int gate, int minute) {
-        return !state.isUp(gate)
-                && (isMarked(closed, 0, gate, minute)
-                || isMarked(days.line.shut, days.line.row(era, late), gate, minute));
+    /** For each GATE and MINUTE, by how many of the numbers noted it is CLOSED. */
+    private void countShut(int era, int all) {
+        Arrays.fill(shutCounts, 0);
+        for (int n = 0; n < all; n++) {
+            long[] row = days.line.row(era, lates[n]);
+            for (int k = 0; k < row.length && k < closed.length; k++) {
+                if (!state.isUp(k / GATE_LONGS)) {
+                    countBits(row[k] | closed[k], k);
+                }
+            }
+        }
     }
 
-    private int countShut(int era, int all, int gate, int minute) {
-        int count = 0;
-        for (int k = 0; k < all; k++) {
-            count += isShutBy(era, lates[k], gate, minute) ? 1 : 0;
+    private void countBits(long shut, int k) {
+        int first = k / GATE_LONGS * MINUTES + k % GATE_LONGS * 64;
+        long bits = shut;
+        for (int n = 0; n < 64 && bits != 0L; n++) {
+            int cell = first + Long.numberOfTrailingZeros(bits);
+            if (cell >= 0 && cell < shutCounts.length) {
+                shutCounts[cell]++;
+            }
+            bits &= bits - 1L;
         }
-        return count;
     }
 
     private static long joined(int kind, long answer, int car, int value) {
@@ -829,13 +849,13 @@ public final class CenturyGates {
 
     // ---- rows of bits: the MINUTES in which GATES are CLOSED
 
-    private static boolean isMarked(long[] bits, int base, int gate, int minute) {
-        int k = base + gate * GATE_LONGS + (minute >> 6);
+    private static boolean isMarked(long[] bits, int gate, int minute) {
+        int k = gate * GATE_LONGS + (minute >> 6);
         return k >= 0 && k < bits.length && (bits[k] >> (minute & 63) & 1L) == 1L;
     }
 
-    private static void mark(long[] bits, int base, int gate, int minute) {
-        int k = base + gate * GATE_LONGS + (minute >> 6);
+    private static void mark(long[] bits, int gate, int minute) {
+        int k = gate * GATE_LONGS + (minute >> 6);
         if (k >= 0 && k < bits.length) {
             bits[k] |= 1L << (minute & 63);
         }
@@ -843,7 +863,7 @@ public final class CenturyGates {
 
     private static int firstOpen(long[] bits, int gate, int minute) {
         for (int m = minute; m < MINUTES; m++) {
-            if (!isMarked(bits, 0, gate, m)) {
+            if (!isMarked(bits, gate, m)) {
                 return m;
             }
         }
@@ -852,7 +872,7 @@ public final class CenturyGates {
 
     private static int firstClosed(long[] bits, int gate, int minute) {
         for (int m = minute; m < MINUTES; m++) {
-            if (isMarked(bits, 0, gate, m)) {
+            if (isMarked(bits, gate, m)) {
                 return m;
             }
         }
@@ -1134,6 +1154,19 @@ public final class CenturyGates {
                 return;
             }
             tape.needWord(word);
+            // a second rule has its FAULT by isNew, and what readThing says of it comes too late to count
+            if (word == WORD_SHUTS && isNew(into.shuts, at)) {
+                readTest(into.shuts, PARTS_SHUTS, 0);
+            } else if (word == WORD_LATE && isNew(into.late, at)) {
+                readSum(into.late, PARTS_LATE, 0);
+            } else if (word == WORD_SEES && isNew(into.sees, at)) {
+                readSum(into.sees, PARTS_SEES, 0);
+            } else {
+                readThing(into, word, at);
+            }
+        }
+
+        private void readThing(District into, int word, int at) {
             switch (word) {
                 case WORD_DISTRICT: into.miles = tape.number(5, 60); break;
                 case WORD_GATE: readGate(into, at); break;
@@ -1142,10 +1175,7 @@ public final class CenturyGates {
                 case WORD_LANE: readWay(into, at, true); break;
                 case WORD_ERA: readEra(into, at); break;
                 case WORD_CAR: readCar(into, at); break;
-                case WORD_SHUTS: readRule(into.shuts, PARTS_SHUTS, at, true); break;
-                case WORD_LATE: readRule(into.late, PARTS_LATE, at, false); break;
-                case WORD_SEES: readRule(into.sees, PARTS_SEES, at, false); break;
-                case WORD_PIGS: into.pigs = tape.number(0, 100); break;
+                case WORD_PIGS: into.pigs = tape.number(0, PIGS_OF); break;
                 default: tape.fail(FAULT_TEXT, at); break;
             }
         }
@@ -1208,14 +1238,11 @@ public final class CenturyGates {
             into.cars.add(name, place, goal, tape.number(0, FROM_MOST), 0);
         }
 
-        private void readRule(Program into, long parts, int at, boolean test) {
-            if (into.size > 0) {
+        private boolean isNew(Program rule, int at) {
+            if (rule.size > 0) {
                 tape.fail(FAULT_MANY, at);
-            } else if (test) {
-                readTest(into, parts, 0);
-            } else {
-                readSum(into, parts, 0);
             }
+            return rule.size == 0;
         }
 
         private boolean isFull(Table table, int at) {
@@ -1374,10 +1401,13 @@ public final class CenturyGates {
 
     /** A TEST or SUM as steps, operands ahead of what is done with them: no text makes objects. */
     private static final class Program {
-        private final int[] steps = new int[TAPE_MOST];
+        private int[] steps = new int[PROGRAM_FIRST];
         private int size;
 
         void add(int step) {
+            if (size == steps.length && size < TAPE_MOST) {
+                steps = Arrays.copyOf(steps, 2 * size);
+            }
             if (size < steps.length) {
                 steps[size] = step;
                 size++;
@@ -1401,8 +1431,12 @@ public final class CenturyGates {
                     push(valueAt(values, step - PART, 0));
                 } else if (step >= 0) {
                     push(step);
-                } else if (step <= DO_NOT) {
-                    push(one(step, pop()));
+                } else if (step == DO_NOT) {
+                    push(pop() == 0 ? 1 : 0);
+                } else if (step == DO_CLOSED) {
+                    push(valueAt(shut, pop(), 0));
+                } else if (step == DO_DRIVE) {
+                    push(valueAt(arrivals, pop(), NONE));
                 } else {
                     int right = pop();
                     push(two(step, pop(), right));
@@ -1424,14 +1458,6 @@ public final class CenturyGates {
             }
             top--;
             return stack[top];
-        }
-
-        private int one(int step, int value) {
-            switch (step) {
-                case DO_CLOSED: return valueAt(shut, value, 0);
-                case DO_DRIVE: return valueAt(arrivals, value, NONE);
-                default: return value == 0 ? 1 : 0;
-            }
         }
 
         private static int two(int step, int left, int right) {
@@ -1613,9 +1639,10 @@ public final class CenturyGates {
     private static final class Line {
         private final Facts facts;
         private District district;
-        /** A row of bits for each ERA and each lateness, made when first asked: the text alone decides it. */
-        private final long[] shut = new long[ERAS_MOST * LATES * ROW];
-        private final int[] made = new int[ERAS_MOST * LATES];
+        /** A row of bits for each ERA and each lateness, marked when first asked: the text alone decides it. */
+        private final long[][] rows = new long[ERAS_MOST * LATES][];
+        private final int[] marked = new int[ERAS_MOST * LATES];
+        private final long[] empty = new long[ROW];
 
         Line(Facts facts, District district) {
             this.facts = facts;
@@ -1624,7 +1651,7 @@ public final class CenturyGates {
 
         void take(District next) {
             district = next;
-            Arrays.fill(made, 0);
+            Arrays.fill(marked, 0);
         }
 
         /** The HEAD of an ERA that is so late; NONE when it is not ON the line. */
@@ -1640,41 +1667,44 @@ public final class CenturyGates {
             Arrays.fill(into, 0L);
             for (int era = 0; era < district.eras.count; era++) {
                 if (era != without) {
-                    int base = row(era, state.late[era]);
-                    for (int k = 0; k < ROW && k < into.length; k++) {
-                        into[k] |= shut[base + k];
+                    long[] row = row(era, state.late[era]);
+                    for (int k = 0; k < row.length && k < into.length; k++) {
+                        into[k] |= row[k];
                     }
                 }
             }
-            for (int k = 0; k < ROW && k < into.length; k++) {
+            for (int k = 0; k < into.length; k++) {
                 if ((up >> k / GATE_LONGS & 1) == 1) {
                     into[k] = 0L;
                 }
             }
         }
 
-        /** Where the row of an ERA that is so late begins; it is made first, if it was not yet. */
-        int row(int era, int late) {
-            int row = era * LATES + late;
-            if (era < 0 || late < 0 || late >= LATES || row >= made.length) {
-                return 0;
+        /** When an ERA that is so late shuts which GATES, were they all down. */
+        long[] row(int era, int late) {
+            int which = era * LATES + late;
+            if (era < 0 || late < 0 || late >= LATES || which >= rows.length) {
+                return empty;
             }
-            int base = row * ROW;
-            if (made[row] == 1) {
-                return base;
+            if (rows[which] == null) {
+                rows[which] = new long[ROW];
             }
-            made[row] = 1;
-            Arrays.fill(shut, base, base + ROW, 0L);
+            long[] row = rows[which];
+            if (marked[which] == 1) {
+                return row;
+            }
+            marked[which] = 1;
+            Arrays.fill(row, 0L);
             for (int minute = 0; minute < MINUTES; minute++) {
                 int head = headOf(era, late, minute);
                 for (int gate = 0; head != NONE && gate < district.gates.count; gate++) {
                     setFacts(era, gate, head, minute);
                     if (facts.run(district.shuts) != 0) {
-                        mark(shut, base, gate, minute);
+                        mark(row, gate, minute);
                     }
                 }
             }
-            return base;
+            return row;
         }
 
         private void setFacts(int era, int gate, int head, int minute) {
@@ -1821,7 +1851,7 @@ public final class CenturyGates {
             facts.values[WORD_KNOWS] = state.knows[car];
             facts.values[WORD_DAY] = state.day;
             for (int gate = 0; gate < GATES_MOST; gate++) {
-                facts.shut[gate] = isMarked(closed, 0, gate, minute) ? 1 : 0;
+                facts.shut[gate] = isMarked(closed, gate, minute) ? 1 : 0;
             }
             roads.go(state.at[car], minute, closed);
             for (int place = 0; place < PLACES_MOST; place++) {
