@@ -27,13 +27,16 @@ public final class ActsTest {
         Check.due("put(1, 1) again", x.put(1, 1), false);
         Check.due("gate(1, 1)", x.gate(1, 1), 1);
         Check.due("has(7)", x.has(7), 1);
+        Check.due("put(1, 2) of one that is up", x.put(1, 2), false);
+        Check.due("put(1, -1) of one that is up", x.put(1, -1), false);
+        Check.due("put(1, 3) of one that is up", x.put(1, 3), false);
         Check.due("put(0, 1)", x.put(0, 1), true);
         Check.due("has(7)", x.has(7), 2);
         Check.due("put(1, 0)", x.put(1, 0), true);
         Check.due("gate(1, 1)", x.gate(1, 1), 0);
         Check.due("gate(0, 1)", x.gate(0, 1), 1);
         Check.due("has(10)", x.has(10), 3);
-        Check.due("status(2)", x.status(2), 6);
+        Check.due("status(2)", x.status(2), 9);
     }
 
     private static void holds() {

@@ -13,6 +13,8 @@ public final class DistrictTest {
         rules();
         openAtOnce();
         whatStays();
+        oneBehindAnother();
+        fullTapes();
         Check.finish();
     }
 
@@ -287,5 +289,59 @@ public final class DistrictTest {
         Check.tell(x, "district 8;gate g at 3;era e long 1 pace 1 from 1;");
         Check.due("the rules of a text before are gone", x.closed(0, 1), 0);
         Check.due("and closed", x.closed(0, 2), 1);
+    }
+
+    /** Nothing of a text before, good or bad, is left in the next one. */
+    private static void oneBehindAnother() {
+        CenturyGates x = new CenturyGates();
+        String rich = "district 30;gate g at 1;place p;place q;lane p to q steps 2 over g;"
+                + "era e long 9 pace 1 from 0;car c at p to q from 0;shuts all;late 50;sees 7;pigs 100;";
+        String plain = "district 30;gate g at 1;place p;place q;lane p to q steps 2 over g;"
+                + "era e long 9 pace 1 from 0;car c at p to q from 0;";
+        for (int n = 0; n < 3; n++) {
+            Check.tell(x, rich);
+            x.days(1);
+            Check.due("era(0, 3)", x.era(0, 3), 50);
+            Check.due("car(0, 3)", x.car(0, 3), 7);
+            Check.due("chance(1)", x.chance(1), 1);
+            for (int k = 0; k <= n; k++) {
+                Check.fault(x, rich + "^", 1, rich.length());
+            }
+            Check.tell(x, plain);
+            Check.due("era(0, 3) is as at first", x.era(0, 3), 0);
+            Check.due("car(0, 3) is as at first", x.car(0, 3), 0);
+            Check.due("car(0, 0) is as at first", x.car(0, 0), 0);
+            Check.due("shuts without a statement", x.closed(0, 30), 0);
+            Check.due("closed(0, 10)", x.closed(0, 10), 1);
+            Check.due("closed(0, 11)", x.closed(0, 11), 0);
+            Check.due("sees without a statement", x.later(0, 1, 1), 11);
+            Check.due("late without a statement", x.late(0, 1), 0);
+            Check.due("no pigs", x.chance(9), 0);
+            Check.tell(x, "district 6;");
+            for (int what = 0; what <= 10; what++) {
+                Check.due("has(" + what + ")", x.has(what), what == 0 ? 6 : 0);
+            }
+        }
+        Check.fault(x, rich + "gate", 1, rich.length() + 4);
+        Check.fault(x, "", 1, 0);
+        Check.due("has(0) stays", x.has(0), 6);
+    }
+
+    private static void fullTapes() {
+        bad(";".repeat(1600), 1, 0);
+        bad(" ".repeat(1600), 1, 1600);
+        bad("a".repeat(1600), 1, 0);
+        bad("1".repeat(1600), 1, 0);
+        bad(D + "late " + "1+".repeat(792), 1, 1600);
+        String rule = D + "era e long 1 pace 1 from 1;late ";
+        int ones = (1600 - rule.length() - 1) / 2;
+        Check.due("behind the longest rule", Check.with(rule + "1-".repeat(ones - 50) + "1+".repeat(50 - 1) + "1;")
+                .late(0, 1), 0);
+        StringBuilder long60 = new StringBuilder(rule).append("60");
+        while (long60.length() < 1595) {
+            long60.append("+1-1");
+        }
+        Check.due("behind the longest rule", Check.with(long60 + ";").late(0, 1), 60);
+        Check.due("a blank at the end", Check.with(D + " ".repeat(1600 - D.length())).has(0), 9);
     }
 }

@@ -24,6 +24,19 @@ public final class GatesTest {
         Check.due("lift(-1, 50)", x.lift(-1, 50), -1);
         x.put(1, 1);
         Check.due("lift(1, 12), up already", x.lift(1, 12), 0);
+        CenturyGates one = Check.with(Fens.LONG_WAIT);
+        Check.due("all gates that there are", one.lift(0, 1), 1);
+        Check.due("none, by waiting", one.lift(0, 37), 0);
+        Check.due("in no time", one.lift(0, 0), -1);
+        CenturyGates all = Check.with("district 5;gate a at 0;gate b at 0;gate c at 0;gate d at 0;gate e at 0;"
+                + "gate f at 0;place p;place q;place r;place s;place t;place u;place v;"
+                + "lane p to q steps 1 over a;lane q to r steps 1 over b;lane r to s steps 1 over c;"
+                + "lane s to t steps 1 over d;lane t to u steps 1 over e;lane u to v steps 1 over f;"
+                + "era x long 30 pace 1 from 0;car y at p to v from 0;shuts all;");
+        Check.due("six gates", all.lift(0, 6), 63);
+        Check.due("five gates are not enough", all.lift(0, 5), -1);
+        Check.due("five gates, the last one opens", all.lift(0, 37), 31);
+        Check.due("none", all.lift(0, 42), 0);
         // two ways of two gates each, all closed in the minutes 0 .. 35; a way of one gate takes longer
         CenturyGates y = Check.with("district 5;gate a at 0;gate b at 0;gate c at 0;gate d at 0;gate e at 0;"
                 + "place p;place q;place r;place s;"

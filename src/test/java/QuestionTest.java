@@ -4,6 +4,7 @@ public final class QuestionTest {
         kinds();
         parts();
         closedAndDrive();
+        longest();
         noCars();
         noDistrict();
         faults();
@@ -80,6 +81,21 @@ public final class QuestionTest {
         CenturyGates towed = Check.with("district 5;place a;place b;car x at a to b from 8;");
         Check.asks(towed, "total drive 1", -1);
         Check.asks(towed, "total drive 0", 8);
+    }
+
+    private static void longest() {
+        CenturyGates x = Check.with("district 5;place p;place q;car c at p to q from 1;");
+        Check.asks(x, "total " + "1+".repeat(796) + "11", 807);
+        Check.asks(x, "total " + "1+".repeat(796) + "1 ", 797);
+        Check.asksWrong(x, "total " + "1+".repeat(797), 1, 1600);
+        Check.asks(x, "total 5", 5);
+        Check.asks(x, "often all" + " and all".repeat(190), 1);
+        Check.asks(x, "often not all" + " or not all".repeat(140), 0);
+        Check.asks(x, "total ((((((1+2*3)+2*3)+2*3)+2*3)+2*3)+2*3)", 37);
+        Check.asks(x, "total 2*3-(2*3-(2*3-(2*3-(2*3-(2*3-(1))))))", 1);
+        Check.asks(x, "often 1<0 or 1=1 and [1<0 or 1=1 and [1<0 or 1=1 and [1<0 or 1=1 and "
+                + "[1<0 or 1=1 and [1<0 or 1=1 and 1+2*3=7]]]]]", 1);
+        Check.asks(x, "often 1<0 or 1=1 and [1<0 or 1=1 and [1<0 or 1=1 and 9-2*(9-2*min(9-2*3,9-2*4))<0-4]]", 1);
     }
 
     private static void noCars() {
