@@ -246,6 +246,10 @@ public final class DistrictTest {
     private static void openAtOnce() {
         Check.with(D + "late ((((((1))))));");
         badAt(D + "late ((((((^(1)))))));", 4);
+        Check.with(D + "sees ((((((1))))));");
+        badAt(D + "sees ((((((^(1)))))));", 4);
+        Check.with(D + "shuts ((((((1))))))<((((((1))))));");
+        badAt(D + "shuts 1<((((((^(1)))))));", 4);
         badAt(D + "late ((((((^(", 4);
         Check.with(D + "late (((((1)))))+((((((1))))));");
         Check.with(D + "shuts not not not not not not all;");

@@ -128,6 +128,10 @@ public final class GatesTest {
             Check.due("the first minute", x.closings(1, 1), first);
             Check.due("the last minute", x.closings(0, 2), 9);
             Check.due("keepers(), from " + first, x.keepers(), first >= 9 + 1 + 4 ? 1 : 2);
+            CenturyGates y = Check.with("district 30;gate h at 4;gate g at 0;era e long 30 pace 1 from 0;"
+                    + "shuts minute<10 and ahead<1-minute or minute>" + (first - 1)
+                    + " and minute<21 and ahead=4-minute;");
+            Check.due("keepers(), the later gate first, from " + first, y.keepers(), first >= 9 + 1 + 4 ? 1 : 2);
         }
     }
 
