@@ -595,11 +595,7 @@ public final class CenturyGates {
             write(state.goal[car]);
             writePair(state.knows[car]);
         }
-        int sum = IMAGE_SUM_START;
-        for (int k = 0; k < imageSize; k++) {
-            sum = (3 * sum + image[k]) % IMAGE_SUM_MODULUS;
-        }
-        write(sum);
+        write(imageSum(image, imageSize));
         return imageSize;
     }
 
@@ -806,7 +802,8 @@ public final class CenturyGates {
         int gates = district.gates.count;
         int eras = district.eras.count;
         int cars = district.cars.count;
-        if (tape.size != 2 + gates + eras + 4 * cars + 1 || !hasImageSum()) {
+        int size = 2 + gates + eras + 4 * cars;
+        if (tape.size != size + 1 || tape.byteAt(size) != imageSum(tape.bytes, size)) {
             return false;
         }
         ahead.start(district);
@@ -839,12 +836,12 @@ public final class CenturyGates {
         return tape.byteAt(k) * 256 + tape.byteAt(k + 1);
     }
 
-    private boolean hasImageSum() {
+    private static int imageSum(int[] bytes, int count) {
         int sum = IMAGE_SUM_START;
-        for (int k = 0; k < tape.size - 1; k++) {
-            sum = (3 * sum + tape.byteAt(k)) % IMAGE_SUM_MODULUS;
+        for (int k = 0; k < count && k < bytes.length; k++) {
+            sum = (3 * sum + bytes[k]) % IMAGE_SUM_MODULUS;
         }
-        return tape.byteAt(tape.size - 1) == sum;
+        return sum;
     }
 
     // ---- rows of bits: the MINUTES in which GATES are CLOSED
