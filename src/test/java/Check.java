@@ -2,8 +2,18 @@
 final class Check {
     private static int wrong = 0;
     private static int asked = 0;
+    private static String about = "";
 
     private Check() {
+    }
+
+    /** What the answers from now on are about; it is told with each wrong one. */
+    static void about(String what) {
+        about = what;
+    }
+
+    static int asked() {
+        return asked;
     }
 
     static void due(String call, long got, long want) {
@@ -11,7 +21,7 @@ final class Check {
         if (got != want) {
             wrong++;
             if (wrong <= 40) {
-                System.out.println(call + " answered " + got + ", due is " + want);
+                System.out.println(about + call + " answered " + got + ", due is " + want);
             }
         }
     }
@@ -73,6 +83,16 @@ final class Check {
         due("fault(2)", x.fault(2), -1);
     }
 
+    /** As fault, on a new object; the place is told by a mark in the text, which is taken out. */
+    static void faultAt(String marked, int kind) {
+        fault(new CenturyGates(), unmarked(marked), kind, marked.indexOf('^'));
+    }
+
+    private static String unmarked(String marked) {
+        int place = marked.indexOf('^');
+        return marked.substring(0, place) + marked.substring(place + 1);
+    }
+
     static void asks(CenturyGates x, String question, long answer) {
         feed(x, question);
         due("ask() of " + question, x.ask(), answer);
@@ -85,6 +105,10 @@ final class Check {
         due("ask() of " + question, x.ask(), CenturyGates.NOTHING);
         due("fault(0) of " + question, x.fault(0), kind);
         due("fault(1) of " + question, x.fault(1), place);
+    }
+
+    static void asksWrongAt(CenturyGates x, String marked, int kind) {
+        asksWrong(x, unmarked(marked), kind, marked.indexOf('^'));
     }
 
     static void finish() {

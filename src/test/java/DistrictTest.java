@@ -22,10 +22,8 @@ public final class DistrictTest {
         Check.fault(new CenturyGates(), text, kind, place);
     }
 
-    /** The FAULT is told by a mark in the text, which is taken out. */
-    private static void badAt(String text, int kind) {
-        int place = text.indexOf('^');
-        bad(text.substring(0, place) + text.substring(place + 1), kind, place);
+    private static void badAt(String marked, int kind) {
+        Check.faultAt(marked, kind);
     }
 
     private static void emptyOnes() {

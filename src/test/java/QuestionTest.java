@@ -126,10 +126,8 @@ public final class QuestionTest {
         }
     }
 
-    private static void badAt(String question, int kind) {
-        int place = question.indexOf('^');
-        CenturyGates x = Check.with("district 5;place p;place q;car c at p to q from 1;");
-        Check.asksWrong(x, question.substring(0, place) + question.substring(place + 1), kind, place);
+    private static void badAt(String marked, int kind) {
+        Check.asksWrongAt(Check.with("district 5;place p;place q;car c at p to q from 1;"), marked, kind);
     }
 
     private static void faults() {
