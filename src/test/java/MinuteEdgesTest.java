@@ -12,6 +12,26 @@ public final class MinuteEdgesTest {
     }
 
     private static void heads() {
+        Edge.of(12, "MINUTES are 0 .. 199.");
+        CenturyGates all = Check.with("district 60;gate g at 0;place p;place q;road p to q steps 1;"
+                + "era e long 30 pace 1 from 0;era f long 30 pace 1 from 91;era h long 30 pace 1 from 99;"
+                + "car c at p to q from 0;shuts all;");
+        all.hold(2, 83);
+        // ERAS are ON the line in 0 .. 90, 91 .. 181, 182 .. 199
+        for (int minute : new int[] {-1, 0, 90, 91, 181, 182, 198, 199, 200}) {
+            boolean is = minute >= 0 && minute <= 199;
+            Check.due("closed(0, " + minute + ")", all.closed(0, minute), is ? 1 : -1);
+            Check.due("opens(0, " + minute + ")", all.opens(0, minute), -1);
+            Check.due("drive(0, 0, " + minute + ")", all.drive(0, 0, minute), is ? minute : -1);
+        }
+        Check.due("head(0, 0)", all.head(0, 0), 0);
+        Check.due("head(2, 199)", all.head(2, 199), 17);
+        Check.due("head(2, 200)", all.head(2, 200), -1);
+        Check.due("the last MINUTE of a CLOSING", all.closings(0, 2), 199);
+        Check.due("one CLOSING", all.closings(0, 0), 1);
+        Check.due("lift(0, 199)", all.lift(0, 199), 0);
+        Check.due("lift(0, 200)", all.lift(0, 200), -1);
+
         Edge.of(12, "An ERA sets out in the MINUTE of its from and its late together (no ERA is late at first): "
                 + "its HEAD is then at mile 0, in each MINUTE farther by its pace;");
         CenturyGates x = Check.with("district 60;era e long 5 pace 9 from 20;era f long 30 pace 1 from 0;");

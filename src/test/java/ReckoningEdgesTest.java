@@ -2,6 +2,7 @@
 public final class ReckoningEdgesTest {
     public static void main(String[] args) {
         tests();
+        sums();
         fromTheLeft();
         division();
         bounds();
@@ -54,6 +55,34 @@ public final class ReckoningEdgesTest {
         holds("not all or not all or all", true);
         holds("all and all and not all", false);
         holds("all and all and all", true);
+    }
+
+    private static void sums() {
+        Edge.of(18, "SUM: PRODUCT { + or - PRODUCT }. PRODUCT: PART { * or / PART }. PART: N (1 to 4 digits); ( SUM ) ; "
+                + "min ( SUM , SUM ) ; max ( SUM , SUM ) ;");
+        is("0", 0);
+        is("00", 0);
+        is("0007", 7);
+        is("999", 999);
+        is("9999", 9999);
+        is("(5)", 5);
+        is("((((((5))))))", 5);
+        is("1+2-3*4/5", 1);
+        is("min(7,7)", 7);
+        is("min(6,7)", 6);
+        is("min(7,6)", 6);
+        is("max(7,7)", 7);
+        is("max(6,7)", 7);
+        is("max(7,6)", 7);
+        is("min(0-1,0-2)", -2);
+        is("max(0-1,0-2)", -1);
+        is("min(1+2*3,max(4,5)*2)", 7);
+        Check.faultAt("district 9;late 9999^0;", 1);
+        Check.faultAt("district 9;late ^;", 1);
+        // the longest that a tape can hold
+        String rule = "district 9;era e long 1 pace 1 from 0;late 1";
+        String longest = rule + "+1-1".repeat((1600 - rule.length() - 1) / 4) + ";";
+        Check.due("a SUM of " + longest.length() + " bytes", Check.with(longest).late(0, 1), 1);
     }
 
     private static void fromTheLeft() {

@@ -15,6 +15,10 @@ public final class TapeEdgesTest {
     }
 
     private static void newOnes() {
+        Edge.of(1, "`NONE = -1`: There is none; it is refused.");
+        Check.due("NONE", CenturyGates.NONE, -1);
+        Edge.of(1, "`NOTHING = -1000000000000000L`: Told where a number below 0 may be one.");
+        Check.due("NOTHING", CenturyGates.NOTHING, -1000000000000000L);
         Edge.of(1, "No district, no gates.");
         CenturyGates x = new CenturyGates();
         for (int what = 0; what <= 10; what++) {
