@@ -330,6 +330,13 @@ public final class ActEdgesTest {
         kept.undo();
         Check.due("what was KEPT is told again", kept.kept(0, 0) * 100 + kept.kept(0, 1), 36);
         Check.due("has(8)", kept.has(8), 1);
+        kept.days(39);
+        kept.days(40);
+        kept.undo();
+        for (int k = 0; k < 40; k++) {
+            Check.due("kept(" + k + ", 0)", kept.kept(k, 0), k);
+            Check.due("kept(" + k + ", 1)", kept.kept(k, 1), k == 0 ? 36 : 0);
+        }
 
         Edge.of(31, "false, refused (4), when none can be.");
         CenturyGates none = Check.with(TWO);

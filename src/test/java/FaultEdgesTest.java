@@ -43,6 +43,12 @@ public final class FaultEdgesTest {
         Check.faultAt(D + "gate g at 1;^;", 1);
         Check.faultAt(D + "gate^_g at 1;", 1);
         Check.faultAt(D + "gate g^\u00ff", 1);
+        Check.faultAt(D + "place a^`;", 1);
+        Check.faultAt(D + "place ^{;", 1);
+        Check.faultAt(D + "place ^A;", 1);
+        Check.faultAt(D + "place z^Z;", 1);
+        Check.faultAt("district 9^:", 1);
+        Check.faultAt("district ^/9;", 1);
         Check.faultAt(D + "shuts ahead>^=3;", 1);
         Check.faultAt(D + "shuts ahead<3^)", 1);
         Check.faultAt(D + "shuts [all^)", 1);

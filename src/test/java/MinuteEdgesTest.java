@@ -117,6 +117,15 @@ public final class MinuteEdgesTest {
             Check.due("closed(0, " + far + ")", y.closed(0, far), -1);
         }
 
+        // the last GATE in the last MINUTES
+        CenturyGates sixth = Check.with("district 60;gate a at 0;gate b at 0;gate c at 0;gate d at 0;gate e at 0;"
+                + "gate f at 60;era x long 30 pace 1 from 99;shuts ahead>50;");
+        sixth.hold(0, 92);
+        for (int minute = 190; minute < 200; minute++) {
+            Check.due("closed(5, " + minute + ")", sixth.closed(5, minute), minute >= 191 ? 1 : 0);
+            Check.due("closed(4, " + minute + ")", sixth.closed(4, minute), 0);
+        }
+
         Edge.of(13, "NONE when there is none such.");
         Check.due("closed(-1, 5)", y.closed(-1, 5), -1);
         Check.due("closed(1, 5)", y.closed(1, 5), -1);
@@ -198,6 +207,14 @@ public final class MinuteEdgesTest {
         Check.due("8 by another PLACE", z.drive(0, 1, 0), 8);
         Check.due("8 by another PLACE, or waiting", z.drive(0, 1, 1), 8);
         Check.due("by the lane", z.drive(0, 1, 5), 8);
+        CenturyGates hops = Check.with("district 5;place a;place b;place c;place d;place e;place f;place g;"
+                + "road a to b steps 10;road a to c steps 1;road c to b steps 1;road b to d steps 1;road a to e steps 59;"
+                + "road d to e steps 1;road e to f steps 1;road a to f steps 60;road f to g steps 1;");
+        int[] soonest = {0, 2, 1, 3, 4, 5, 6};
+        for (int place = 0; place < 7; place++) {
+            Check.due("by many roads to " + place, hops.drive(0, place, 0), soonest[place]);
+            Check.due("and back from " + place, hops.drive(place, 0, 0), soonest[place]);
+        }
         Check.due("in 199", z.drive(0, 1, 196), 199);
         Check.due("in 200", z.drive(0, 1, 197), -1);
         Check.due("in 199", y.drive(0, 2, 138), 199);

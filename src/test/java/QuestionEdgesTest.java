@@ -25,6 +25,9 @@ public final class QuestionEdgesTest {
         Check.asksWrong(x, "often", 1, 5);
         Check.due("the tape goes, with a FAULT", x.end(1), false);
         Check.asksWrong(x, "", 1, 0);
+        Check.asks(x, "total " + "1+".repeat(796) + "11", 4 * 807);
+        Check.asks(x, "often " + "all and ".repeat(198) + "all", 4);
+        Check.asks(x, "total 1", 4);
         Check.due("nothing has changed", x.has(6) + x.has(8) + x.has(10), 0);
         for (int what = 0; what < 6; what++) {
             Check.due("nothing is refused", x.status(what), what == 0 ? 2 : 0);
@@ -71,6 +74,8 @@ public final class QuestionEdgesTest {
         Check.asks(x, "most 3", 3);
         Check.asks(x, "least 3", 3);
         Check.asks(x, "most number", 3);
+        Check.asks(x, "most 3-number", 3);
+        Check.asks(x, "least number", 0);
         Check.asks(x, "least 3-number", 0);
         Check.asks(none, "most 7", 0);
         Check.asks(none, "most 0-7", 0);

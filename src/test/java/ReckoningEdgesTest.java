@@ -80,9 +80,9 @@ public final class ReckoningEdgesTest {
         Check.faultAt("district 9;late 9999^0;", 1);
         Check.faultAt("district 9;late ^;", 1);
         // the longest that a tape can hold
-        String rule = "district 9;era e long 1 pace 1 from 0;late 1";
-        String longest = rule + "+1-1".repeat((1600 - rule.length() - 1) / 4) + ";";
-        Check.due("a SUM of " + longest.length() + " bytes", Check.with(longest).late(0, 1), 1);
+        String rule = "district 9;place p;place q;road p to q steps 1;car c at p to q from 0;sees 1";
+        int times = (1600 - rule.length() - 1) / 2;
+        Check.due("a SUM of " + times, Check.with(rule + "+1".repeat(times) + ";").later(0, 1, 1), 1 + times);
     }
 
     private static void fromTheLeft() {

@@ -95,6 +95,19 @@ public final class SeenEdgesTest {
         was(x, 0, 0, -1, -1);
         see(x, 2, 20, 0, 1, 20, 0, 0);
         was(x, 0, 0, -1, -1);
+        // each of 16 rows counts
+        int[] rows = new int[48];
+        for (int row = 0; row < 16; row++) {
+            for (int k = 0; k < 16; k++) {
+                rows[3 * k] = 30;
+                rows[3 * k + 1] = 0;
+                rows[3 * k + 2] = 0;
+            }
+            rows[3 * row] = 31;
+            rows[3 * row + 2] = 1;
+            see(x, 16, rows);
+            was(x, 0, 1, 21, 21);
+        }
         // the other ERA is as late as it is now
         see(x, 1, 10, 0, 1);
         was(x, 0, 100, 0, 99);
@@ -169,6 +182,13 @@ public final class SeenEdgesTest {
         see(shut, 1, 3, 0, 1);
         was(shut, 0, 4, 0, 3);
         tells(shut, 0, 1, 0, 2);
+
+        CenturyGates zero = Check.with("district 60;gate g at 0;era e long 30 pace 1 from 0;shuts minute=0;");
+        tells(zero, 0, 0, 0, 99);
+        CenturyGates last = Check.with("district 60;gate a at 0;gate b at 0;gate c at 0;gate d at 0;gate e at 0;gate f at 60;"
+                + "era x long 30 pace 1 from 99;shuts minute=199 and ahead>0;");
+        // ON the line in 199 are the numbers 10 .. 99; its head is at 100 - late, ahead of f while below 60
+        tells(last, 0, 199, 5, 59);
 
         Edge.of(25, "of like ones the first, MINUTE by MINUTE, GATE by GATE.");
         CenturyGates like = Check.with("district 60;gate g at 5;gate h at 5;gate i at 0;era e long 30 pace 1 from 10;"

@@ -92,6 +92,38 @@ public final class TextEdgesTest {
         Check.due("was(0, 0)", y.was(0, 0), 100);
         Check.due("undo()", y.undo(), false);
         Check.due("the seed stays", y.chance(1), 0);
+        for (int n = 0; n < 3; n++) {
+            oneBehindAnother(y, n);
+        }
+    }
+
+    /** Nothing of a text before, good or bad, is left in the next one. */
+    private static void oneBehindAnother(CenturyGates x, int bad) {
+        String rich = "district 60;gate g at 1;place p;place q;lane p to q steps 2 over g;era e long 9 pace 1 from 0;"
+                + "car c at p to q from 0;shuts minute<50;late 50;sees 7;pigs 100;";
+        String plain = "district 30;gate g at 1;place p;place q;lane p to q steps 2 over g;era e long 9 pace 1 from 0;"
+                + "car c at p to q from 0;";
+        Check.tell(x, rich);
+        Check.due("closed(0, 40)", x.closed(0, 40), 1);
+        Check.due("chance(1)", x.chance(1), 1);
+        Check.due("knows", x.car(0, 3), 7);
+        for (int n = 0; n < bad; n++) {
+            Check.fault(x, rich + "!", 1, rich.length());
+        }
+        Check.tell(x, plain);
+        Check.due("closed(0, 10)", x.closed(0, 10), 1);
+        Check.due("closed(0, 11)", x.closed(0, 11), 0);
+        Check.due("late", x.late(0, 1), 0);
+        Check.due("knows", x.later(0, 1, 1), 11);
+        Check.due("no pigs", x.chance(9), 0);
+        for (int n = 0; n < bad; n++) {
+            Check.fault(x, rich + "gate", 1, rich.length() + 4);
+        }
+        Check.fault(x, "", 1, 0);
+        Check.tell(x, "district 6;");
+        for (int what = 0; what <= 10; what++) {
+            Check.due("has(" + what + ")", x.has(what), what == 0 ? 6 : 0);
+        }
     }
 
     private static String pigs(int times) {
