@@ -13,6 +13,7 @@ public final class ActEdgesTest {
         days();
         chances();
         draws();
+        whatIsAnAct();
         undoes();
         seeds();
         Edge.finish(26, 27, 28, 29, 30, 31, 32);
@@ -265,6 +266,47 @@ public final class ActEdgesTest {
             Check.due("from " + from, x.era(era, 3), draw(seed, 20));
             Check.due("the other one from " + from, x.era(1 - era, 3), 0);
         }
+    }
+
+    private static void whatIsAnAct() {
+        Edge.of(31, "ACTS: a GATE is put UP, or down; an ERA is held back (it is so late); a CAR has another goal; DAYS; "
+                + "DAYS by the seed:");
+        CenturyGates x = Check.with(TWO);
+        x.put(0, 1);
+        x.put(0, 0);
+        x.hold(0, 7);
+        Check.due("it is so late", x.era(0, 3), 7);
+        x.hold(0, 3);
+        Check.due("it is so late, not so much later", x.era(0, 3), 3);
+        x.send(0, 2);
+        x.days(3);
+        x.chance(3);
+        Check.due("seven ACTS", x.has(10), 7);
+        Check.feed(x, 1, 0, 0);
+        x.see();
+        x.seed(5);
+        x.image();
+        Check.asks(x, "often all", 2);
+        x.later(0, 60, 0);
+        x.late(0, 60);
+        x.lift(0, 9);
+        x.tells(0, 0);
+        Check.due("none of these is one", x.has(10), 7);
+        x.put(0, 0);
+        x.hold(0, 3);
+        x.send(0, 2);
+        x.days(41);
+        x.chance(0);
+        x.on();
+        x.district();
+        Check.due("nor is what was refused", x.has(10), 7);
+        int[] days = {3, 0, 0, 0, 0, 0, 0};
+        for (int n = 0; n < 7; n++) {
+            Check.due("undo()", x.undo(), true);
+            Check.due("has(6)", x.has(6), days[n]);
+        }
+        Check.due("an undo is none", x.undo(), false);
+        Check.due("what was SEEN stays", x.has(9), 1);
     }
 
     private static void undoes() {

@@ -176,8 +176,8 @@ public final class MinuteEdgesTest {
 
     private static void drives() {
         CenturyGates x = row();
-        Edge.of(15, "there one may wait MINUTES, take a road, or, if its GATE is not CLOSED in the MINUTE in which one "
-                + "sets out on it, a lane, either way;");
+        Edge.of(15, "A DRIVE from a PLACE in a MINUTE: there one may wait MINUTES, take a road, or, if its GATE is not "
+                + "CLOSED in the MINUTE in which one sets out on it, a lane, either way;");
         Check.due("closed(0, 10)", x.closed(0, 10) * 10 + x.closed(1, 10), 10);
         Check.due("closed(1, 30)", x.closed(0, 30) * 10 + x.closed(1, 30), 1);
         Check.due("it sets out ahead of the closing", x.drive(0, 1, 9), 13);

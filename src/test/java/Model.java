@@ -375,7 +375,7 @@ final class Model {
         return rows;
     }
 
-    /** As many as the most CLOSINGS of which none can be reached from another; -2 when that is too much to try. */
+    /** As many as the most CLOSINGS of which none can be reached from another: those of one GATE are never two of them. */
     int keepers() {
         List<int[]> all = new ArrayList<>();
         for (int gate = 0; gate < gates.size(); gate++) {
@@ -384,7 +384,7 @@ final class Model {
         if (all.size() > 40) {
             return -1;
         }
-        return all.size() > 16 ? -2 : apart(all, 0, new ArrayList<>());
+        return apart(all, 0, new ArrayList<>());
     }
 
     private int apart(List<int[]> all, int k, List<int[]> taken) {

@@ -37,7 +37,7 @@ public final class QuestionEdgesTest {
     private static void kinds() {
         CenturyGates x = Check.with(FOUR);
         CenturyGates none = Check.with("district 9;");
-        Edge.of(33, "first TEST, last TEST (the first, the last CAR for which it holds),");
+        Edge.of(33, "A QUESTION is a text, of all CARS: first TEST, last TEST (the first, the last CAR for which it holds),");
         Check.asks(x, "first from=7", 1);
         Check.asks(x, "last from=7", 2);
         Check.asks(x, "first all", 0);
@@ -168,7 +168,7 @@ public final class QuestionEdgesTest {
     }
 
     private static void reckoning() {
-        Edge.of(33, "TEST, SUM as in I,");
+        Edge.of(33, "TEST, SUM as in I, but");
         CenturyGates x = Check.with(ONE);
         Check.asks(x, "total 10-3-2", 5);
         Check.asks(x, "total (0-7)/2", -4);
@@ -209,7 +209,7 @@ public final class QuestionEdgesTest {
     }
 
     private static void noSuchText() {
-        Edge.of(33, "1 as in I (an unknown word at its first byte; what stands behind it, too);");
+        Edge.of(33, "Its FAULTS: 1 as in I (an unknown word at its first byte; what stands behind it, too);");
         CenturyGates x = Check.with(ONE);
         Check.asksWrongAt(x, "^", 1);
         Check.asksWrongAt(x, "  \n^", 1);

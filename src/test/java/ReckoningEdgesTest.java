@@ -7,6 +7,7 @@ public final class ReckoningEdgesTest {
         division();
         bounds();
         partsOfShuts();
+        whoseWords();
         partsOfLate();
         partsOfSees();
         without();
@@ -179,6 +180,32 @@ public final class ReckoningEdgesTest {
             Check.due(both, x.closed(0, minute), 1);
             Check.due("once", x.closings(0, 2) - x.closings(0, 1), 0);
         }
+    }
+
+    private static void whoseWords() {
+        Edge.of(18, "of the ERA; the MINUTE; how late it is; the DAY;");
+        // two ERAS at the same miles, each alone as long, as fast, as late as its own words tell
+        CenturyGates x = Check.with("district 60;gate g at 0;era e long 30 pace 1 from 0;era f long 1 pace 9 from 0;"
+                + "shuts long=30 and minute=50 or pace=9 and minute=6;late long*10+pace+late;");
+        Check.due("long of the one that is ON the line in 50", x.closed(0, 50), 1);
+        Check.due("pace of the one that is ON the line in 6", x.closed(0, 6), 1);
+        Check.due("the MINUTE, no other", x.closings(0, 0), 2);
+        Check.due("99 at most", x.late(0, 1), 99);
+        Check.due("10 and 9, twice", x.late(1, 2), 38);
+        x.hold(0, 0);
+        x.hold(1, 1);
+        Check.due("in 7, 1 later, it is none of these", x.closed(0, 7), 0);
+        Check.due("the MINUTE does not go with how late it is", x.closed(0, 6), 1);
+        CenturyGates y = Check.with("district 9;place p;place q;road p to q steps 1;car c at p to q from 0;"
+                + "era e long 1 pace 1 from 0;late day;sees day;");
+        Check.due("on(), DAY 98", ImageTest.on(y, 0, 98, 0, 0, 1, 0, 0), true);
+        y.days(1);
+        Check.due("how late by DAY 98", y.era(0, 3), 98);
+        Check.due("what it knows by DAY 98", y.car(0, 3), 98);
+        Check.due("on(), DAY 998", ImageTest.on(y, 3, 230, 0, 0, 1, 0, 0), true);
+        y.days(1);
+        Check.due("how late by DAY 998", y.era(0, 3), 99);
+        Check.due("what it knows by DAY 998", y.car(0, 3), 998);
     }
 
     /** The GATE is closed in the minutes 0 .. 8: one CAR waits 9, another one 7, a third is TOWED. */
