@@ -28,6 +28,14 @@ public final class QuestionEdgesTest {
         Check.asks(x, "total " + "1+".repeat(796) + "11", 4 * 807);
         Check.asks(x, "often " + "all and ".repeat(198) + "all", 4);
         Check.asks(x, "total 1", 4);
+        // nothing of a QUESTION before is left in the next one
+        for (int n = 0; n < 3; n++) {
+            Check.asks(x, "total " + "1+".repeat(796) + n, 4 * (796 + n));
+            Check.asksWrong(x, "total " + "1+".repeat(797), 1, 6 + 2 * 797);
+        }
+        for (int n = 0; n < 80; n++) {
+            Check.asks(x, "total " + n, 4 * n);
+        }
         Check.due("nothing has changed", x.has(6) + x.has(8) + x.has(10), 0);
         for (int what = 0; what < 6; what++) {
             Check.due("nothing is refused", x.status(what), what == 0 ? 2 : 0);

@@ -56,6 +56,11 @@ public final class ReckoningEdgesTest {
         holds("not all or not all or all", true);
         holds("all and all and not all", false);
         holds("all and all and all", true);
+        holds("all and 1<2", true);
+        holds("1<2 and all", true);
+        holds("all and 2<1", false);
+        holds("2<1 or all", true);
+        holds("[all] and not [not 1<2]", true);
     }
 
     private static void sums() {

@@ -190,6 +190,13 @@ public final class SeenEdgesTest {
         // ON the line in 199 are the numbers 10 .. 99; its head is at 100 - late, ahead of f while below 60
         tells(last, 0, 199, 5, 59);
 
+        // the numbers 36 .. 64 are left, CLOSED in 64 .. 126 by all of them, in 127 by 37 .. 50
+        CenturyGates row = Check.with("district 60;gate g at 0;era e long 30 pace 1 from 0;"
+                + "shuts minute>63 and minute<127 or minute=127 and ahead<0-76;");
+        see(row, 2, 64, 0, 1, 126, 0, 1);
+        was(row, 0, 29, 36, 64);
+        tells(row, 0, 127, 0, 15);
+
         Edge.of(25, "of like ones the first, MINUTE by MINUTE, GATE by GATE.");
         CenturyGates like = Check.with("district 60;gate g at 5;gate h at 5;gate i at 0;era e long 30 pace 1 from 10;"
                 + "shuts ahead<1;");

@@ -307,6 +307,9 @@ public final class TextEdgesTest {
         Check.faultAt(D + "gate g at 4^x;", 1);
         Check.faultAt(D + "shuts ahead<3^and behind<1;", 1);
         Check.faultAt(D + "shuts all and^3<4;", 1);
+        // 59 is the number of the byte ; and 40 that of (
+        Check.faultAt(D + "place p^59", 1);
+        Check.faultAt(D + "late min^40 1,2);", 1);
         Check.faultAt("district^\t9;", 1);
         Check.faultAt("district^\r\n9;", 1);
         Check.faultAt("district 9;^\0", 1);
